@@ -25,7 +25,7 @@ public final class BadAddressTest {
             Due.is("storeByte(" + bad + ", 1)", x.storeByte(bad, 1), HiddenCaches.BAD_ADDRESS);
         }
         Due.is("reserved() after refused calls", x.reserved(), 0);
-        Due.restIsAsFilled("refused calls", x, 256, 256);
+        Due.allIsAsFilled("refused calls", x);
         valuesMayEqualTheAnswers();
         Due.end();
     }

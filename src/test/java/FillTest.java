@@ -29,7 +29,7 @@ public final class FillTest {
                 Due.is("deviceFill(" + bad + ", " + n + ", 1)", x.deviceFill(bad, n, 1), HiddenCaches.BAD_ADDRESS);
             }
         }
-        Due.restIsAsFilled("refused fills", x, 256, 256);
+        Due.allIsAsFilled("refused fills", x);
     }
 
     private static void badLengths() {
@@ -41,6 +41,6 @@ public final class FillTest {
         for (int n = 2; n <= 64; n++) {
             Due.is("deviceFill beyond the end", x.deviceFill(257 - n, n, 1), HiddenCaches.BAD_LENGTH);
         }
-        Due.restIsAsFilled("refused fills", x, 256, 256);
+        Due.allIsAsFilled("refused fills", x);
     }
 }

@@ -23,7 +23,7 @@ public final class HintAndSumTest {
         }
         Due.is("reserved() after hints", x.reserved(), 64);
         Due.is("sum() after hints", x.sum(), sum);
-        Due.restIsAsFilled("hints", x, 256, 256);
+        Due.allIsAsFilled("hints", x);
     }
 
     private static void hintsKeepLateWrites() {
@@ -58,6 +58,6 @@ public final class HintAndSumTest {
         }
         Due.is("sum() of all", all.sum(), want);
         Due.is("reserved() after sum()", all.reserved(), 5);
-        Due.restIsAsFilled("sum()", all, 256, 256);
+        Due.allIsAsFilled("sum()", all);
     }
 }

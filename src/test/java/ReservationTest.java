@@ -16,11 +16,9 @@ public final class ReservationTest {
 
     private static void reserves() {
         HiddenCaches x = Due.filled();
-        for (int a = 0; a < 256; a++) {
+        for (int a = 0; a < 256; a += 3) {
             Due.is("loadReserved(" + a + ")", x.loadReserved(a), Due.valueOf(a));
-            if (a % 5 == 0) {
-                Due.is("reserved()", x.reserved(), a);
-            }
+            Due.is("reserved()", x.reserved(), a);
         }
         x = new HiddenCaches(0);
         x.deviceWrite(7, 70);
@@ -54,7 +52,7 @@ public final class ReservationTest {
         Due.is("storeConditional(21, 1), 20 reserved", x.storeConditional(21, 1), 0);
         Due.is("reserved() after it", x.reserved(), -1);
         Due.is("storeConditional(20, 1) after it", x.storeConditional(20, 1), 0);
-        Due.restIsAsFilled("conditional stores without reservation", x, 256, 256);
+        Due.allIsAsFilled("conditional stores without reservation", x);
     }
 
     /** Each write here leaves the value that was there, as that is a write all the same. */
