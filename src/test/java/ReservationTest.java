@@ -1,151 +1,130 @@
-import java.util.function.Consumer;
-
-/** Promises 8, 9 and 16: the reservation, what takes it away and what leaves it. */
+/** Promises 8, 9 and 16: the reservation and the conditional store. */
 public final class ReservationTest {
+    private static final int[] WORDS = {0, 1, 2, 127, 128, 200, 254, 255};
+
     public static void main(String[] args) {
-        reserves();
-        storesOnce();
-        storesNothingElsewhere();
-        for (int word : new int[] {0, 1, 100, 200, 255}) {
-            everyWriteLoses(word);
-            nothingElseLoses(word);
-        }
-        refusedCallsKeepIt();
+        Due.sentence("Promise 8: The processor reads a word and reserves it", ReservationTest::readsAndReserves);
+        Due.sentence("Promise 8: instead of any other one", ReservationTest::insteadOfAnyOther);
+        Due.sentence("Promise 9: if the word is reserved, the value is written and the answer is 1",
+            ReservationTest::storesIfReserved);
+        Due.sentence("Promise 9: else nothing is written and the answer is 0",
+            ReservationTest::storesNothingElse);
+        Due.sentence("Promise 9: No word is reserved then", ReservationTest::noneIsReservedThen);
+        Due.sentence("Promise 9: (a conditional store to a bad address is refused and changes nothing)",
+            ReservationTest::refusedConditionalStores);
+        Due.sentence("Promise 16: The reserved word", ReservationTest::tellsTheReservedWord);
+        Due.sentence("Promise 16: -1 if there is none", ReservationTest::tellsThatThereIsNone);
         Due.end();
     }
 
-    private static void reserves() {
-        HiddenCaches x = Due.filled();
-        for (int a = 0; a < 256; a += 3) {
-            Due.is("loadReserved(" + a + ")", x.loadReserved(a), Due.valueOf(a));
-            Due.is("reserved()", x.reserved(), a);
+    private static void readsAndReserves() {
+        for (int word : WORDS) {
+            for (int value : Due.EDGE_INTS) {
+                HiddenCaches x = Due.filled();
+                Due.is("loadReserved(" + word + ")", x.loadReserved(word), Due.valueOf(word));
+                x.deviceWrite(word, value);
+                Due.is("loadReserved(" + word + ") after deviceWrite", x.loadReserved(word), value);
+                Due.is("reserved() after loadReserved(" + word + ")", x.reserved(), word);
+                Due.is("loadReserved(" + word + ") again", x.loadReserved(word), value);
+                Due.is("reserved() after it", x.reserved(), word);
+                Due.restIsAsFilled("loadReserved(" + word + ")", x, word, word);
+            }
         }
-        x = new HiddenCaches(0);
-        x.deviceWrite(7, 70);
-        Due.is("loadReserved(7) after deviceWrite", x.loadReserved(7), 70);
-        x.loadReserved(8);
-        Due.is("reserved() after a second loadReserved", x.reserved(), 8);
-        Due.is("storeConditional(7, 1) to the first", x.storeConditional(7, 1), 0);
-        Due.is("load(7)", x.load(7), 70);
-        Due.is("storeConditional(8, 1) after that", x.storeConditional(8, 1), 0);
-        Due.is("load(8)", x.load(8), 0);
     }
 
-    private static void storesOnce() {
-        for (int word : new int[] {0, 1, 255}) {
-            HiddenCaches x = Due.filled();
+    private static void insteadOfAnyOther() {
+        for (int first : WORDS) {
+            for (int second : WORDS) {
+                if (first != second) {
+                    theSecondTakesIt(first, second);
+                }
+            }
+        }
+    }
+
+    private static void theSecondTakesIt(int first, int second) {
+        String after = "loadReserved(" + first + "), loadReserved(" + second + ")";
+        HiddenCaches x = Due.filledAndReserved(first);
+        x.loadReserved(second);
+        x.store(first, 1);
+        Due.is("reserved() after " + after + ", store to the first", x.reserved(), second);
+        Due.is("storeConditional to the second after " + after, x.storeConditional(second, 1), 1);
+        x = Due.filledAndReserved(first);
+        x.loadReserved(second);
+        Due.is("storeConditional to the first after " + after, x.storeConditional(first, 1), 0);
+        Due.is("storeConditional to the second after that", x.storeConditional(second, 1), 0);
+        Due.allIsAsFilled(after, x);
+    }
+
+    private static void storesIfReserved() {
+        for (int word : WORDS) {
+            for (int value : Due.EDGE_INTS) {
+                HiddenCaches x = Due.filledAndReserved(word);
+                String call = "storeConditional(" + word + ", " + value + ")";
+                Due.is(call, x.storeConditional(word, value), 1);
+                Due.is("load after " + call, x.load(word), value);
+                Due.is("deviceRead after " + call, x.deviceRead(word), value);
+                Due.restIsAsFilled(call, x, word, word);
+            }
+        }
+    }
+
+    private static void storesNothingElse() {
+        for (int word : WORDS) {
+            for (int reserved : new int[] {Due.NONE, word ^ 1, word ^ 64, word ^ 128, 255 - word}) {
+                HiddenCaches x = Due.filledAndReserved(reserved);
+                String call = "storeConditional(" + word + ", 1), reserved " + reserved;
+                Due.is(call, x.storeConditional(word, 1), 0);
+                Due.is("load after " + call, x.load(word), Due.valueOf(word));
+                Due.allIsAsFilled(call, x);
+            }
+        }
+    }
+
+    private static void noneIsReservedThen() {
+        for (int word : WORDS) {
+            for (int reserved : new int[] {Due.NONE, word, word ^ 1, 255 - word}) {
+                HiddenCaches x = Due.filledAndReserved(reserved);
+                x.storeConditional(word, 5);
+                String after = "storeConditional(" + word + ", 5), reserved " + reserved;
+                Due.is("reserved() after " + after, x.reserved(), -1);
+                Due.is("storeConditional again after " + after, x.storeConditional(word, 6), 0);
+                Due.holds("nothing is written by it", x.load(word) != 6);
+            }
+        }
+    }
+
+    private static void refusedConditionalStores() {
+        for (int bad : new int[] {-1, -2, 256, 257, Integer.MIN_VALUE, Integer.MAX_VALUE}) {
+            String call = "storeConditional(" + bad + ", 1)";
+            Due.answers(call, HiddenCaches.BAD_ADDRESS, x -> x.storeConditional(bad, 1));
+            Due.changesNothing(call, bad & 255, x -> x.storeConditional(bad, 1));
+        }
+    }
+
+    private static void tellsTheReservedWord() {
+        HiddenCaches x = new HiddenCaches(0);
+        for (int word = 0; word < 256; word++) {
             x.loadReserved(word);
-            Due.is("storeConditional, reserved", x.storeConditional(word, -1), 1);
-            Due.is("load after it", x.load(word), -1);
-            Due.is("deviceRead after it", x.deviceRead(word), -1);
-            Due.is("reserved() after it", x.reserved(), -1);
-            Due.is("storeConditional again", x.storeConditional(word, 6), 0);
-            Due.is("load after that", x.load(word), -1);
-            Due.restIsAsFilled("storeConditional", x, word, word);
+            Due.is("reserved() after loadReserved(" + word + ")", x.reserved(), word);
+        }
+        for (int word : WORDS) {
+            Due.changesNothing("reserved()", word, y -> y.reserved());
         }
     }
 
-    private static void storesNothingElsewhere() {
-        HiddenCaches x = Due.filled();
-        Due.is("storeConditional(0, 1), none reserved", x.storeConditional(0, 1), 0);
-        x.loadReserved(20);
-        Due.is("storeConditional(21, 1), 20 reserved", x.storeConditional(21, 1), 0);
-        Due.is("reserved() after it", x.reserved(), -1);
-        Due.is("storeConditional(20, 1) after it", x.storeConditional(20, 1), 0);
-        Due.allIsAsFilled("conditional stores without reservation", x);
-    }
-
-    /** Each write here leaves the value that was there, as that is a write all the same. */
-    private static void everyWriteLoses(int w) {
-        int v = Due.valueOf(w);
-        loses("store", w, x -> x.store(w, v));
-        loses("swap", w, x -> x.swap(w, v));
-        loses("addTo", w, x -> x.addTo(w, 0));
-        loses("deviceWrite", w, x -> x.deviceWrite(w, v));
-        loses("deviceFill of one", w, x -> x.deviceFill(w, 1, v));
-        loses("copy onto itself", w, x -> x.copy(w, w, 1));
-        loses("storeConditional elsewhere", w, x -> x.storeConditional(w ^ 1, v));
-        for (int b = 0; b < 4; b++) {
-            int place = 4 * w + b;
-            loses("storeByte " + b, w, x -> x.storeByte(place, v >>> 8 * (place % 4)));
+    private static void tellsThatThereIsNone() {
+        for (int word : WORDS) {
+            for (Write write : Write.ALL) {
+                HiddenCaches x = new HiddenCaches(0);
+                Due.is("reserved() of a new object", x.reserved(), -1);
+                x.loadReserved(word);
+                write.on(x, word, 3);
+                Due.is("reserved() after " + write.name() + " to " + word, x.reserved(), -1);
+                Due.is("reserved() once more", x.reserved(), -1);
+                x.loadReserved(256);
+                Due.is("reserved() after loadReserved(256)", x.reserved(), -1);
+            }
         }
-        if (w >= 31) {
-            loses("copy, as its last word", w, x -> x.copy(w - 31, w - 31, 32));
-            loses("deviceFill, as its last word", w, x -> x.deviceFill(w - 31, 32, v));
-        }
-        if (w <= 192) {
-            loses("copy, as its first word", w, x -> x.copy(w, w, 32));
-            loses("deviceFill, as its first word", w, x -> x.deviceFill(w, 64, v));
-        }
-        loses("store to another value and back", w, x -> {
-            x.store(w, ~v);
-            x.store(w, v);
-        });
-    }
-
-    private static void loses(String what, int word, Consumer<HiddenCaches> call) {
-        HiddenCaches x = Due.filled();
-        x.loadReserved(word);
-        call.accept(x);
-        Due.is("reserved() after " + what + " at " + word, x.reserved(), -1);
-        int before = x.load(word);
-        Due.is("storeConditional after " + what + " at " + word, x.storeConditional(word, 99), 0);
-        Due.is("load after " + what + " at " + word, x.load(word), before);
-    }
-
-    private static void nothingElseLoses(int w) {
-        int next = w == 255 ? 254 : w + 1;
-        keeps("load", w, x -> x.load(w));
-        keeps("loadByte", w, x -> x.loadByte(4 * w, true));
-        keeps("deviceRead", w, x -> x.deviceRead(w));
-        keeps("sum", w, x -> x.sum());
-        keeps("reserved", w, x -> x.reserved());
-        keeps("loadReserved again", w, x -> x.loadReserved(w));
-        keeps("store beside", w, x -> x.store(next, 1));
-        keeps("swap beside", w, x -> x.swap(next, 1));
-        keeps("addTo beside", w, x -> x.addTo(next, 1));
-        keeps("storeByte beside", w, x -> x.storeByte(4 * next, 1));
-        keeps("deviceWrite beside", w, x -> x.deviceWrite(next, 1));
-        keeps("copy of it", w, x -> x.copy(w, next, 1));
-        keeps("copy of none", w, x -> x.copy(w, w, 0));
-        keeps("deviceFill of none", w, x -> x.deviceFill(w, 0, 1));
-        keeps("deviceFill beside", w, x -> x.deviceFill(next, 1, 1));
-        for (int how = -2; how < 8; how++) {
-            int h = how;
-            keeps("hint " + how, w, x -> x.hint(w, h));
-        }
-        if (w >= 32 && w <= 223) {
-            keeps("copy up to it", w, x -> x.copy(0, w - 32, 32));
-            keeps("copy from after it", w, x -> x.copy(0, w + 1, 32));
-            keeps("deviceFill up to it", w, x -> x.deviceFill(w - 32, 32, 1));
-            keeps("deviceFill from after it", w, x -> x.deviceFill(w + 1, 32, 1));
-        }
-    }
-
-    private static void keeps(String what, int word, Consumer<HiddenCaches> call) {
-        HiddenCaches x = Due.filled();
-        x.loadReserved(word);
-        call.accept(x);
-        Due.is("reserved() after " + what + " at " + word, x.reserved(), word);
-        Due.is("reserved() once more", x.reserved(), word);
-        Due.is("storeConditional after " + what + " at " + word, x.storeConditional(word, 99), 1);
-        Due.is("load after " + what + " at " + word, x.load(word), 99);
-    }
-
-    private static void refusedCallsKeepIt() {
-        for (int bad : new int[] {-1, 256, Integer.MIN_VALUE, Integer.MAX_VALUE}) {
-            keeps("loadReserved refused", 0, x -> x.loadReserved(bad));
-            keeps("storeConditional refused", 0, x -> x.storeConditional(bad, 1));
-        }
-        keeps("copy too long", 0, x -> x.copy(1, 0, 33));
-        keeps("copy beyond the end", 250, x -> x.copy(1, 250, 7));
-        keeps("copy from beyond the end", 0, x -> x.copy(250, 0, 7));
-        keeps("deviceFill too long", 0, x -> x.deviceFill(0, 65, 1));
-        keeps("deviceFill beyond the end", 250, x -> x.deviceFill(250, 7, 1));
-        HiddenCaches none = new HiddenCaches(0);
-        none.storeConditional(-1, 1);
-        none.loadReserved(-1);
-        Due.is("reserved() after loadReserved(-1)", none.reserved(), -1);
-        Due.is("storeConditional(-1, 1), none reserved", none.storeConditional(-1, 1), -1);
     }
 }
