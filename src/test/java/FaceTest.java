@@ -27,7 +27,20 @@ public final class FaceTest {
         "public int HiddenCaches.sum()",
         "public int HiddenCaches.reserved()");
 
+    private static final Set<Class<?>> FIELD_TYPES = Set.of(int.class, long.class, short.class, byte.class,
+        char.class, boolean.class, int[].class, long[].class, short[].class, byte[].class, char[].class,
+        boolean[].class);
+
     public static void main(String[] args) {
+        Due.sentence("The public face", FaceTest::theFaceIsTheDocuments);
+        Due.sentence("LANGUAGE.md 1: No private method bears the name of a public one. No nested class",
+            FaceTest::namesAreApart);
+        Due.sentence("LANGUAGE.md 2, 5: types of fields; static fields are constants of int or long alone",
+            FaceTest::fieldsAreNumbers);
+        Due.end();
+    }
+
+    private static void theFaceIsTheDocuments() {
         Set<String> seen = new TreeSet<>();
         for (Field field : HiddenCaches.class.getDeclaredFields()) {
             add(seen, field.getModifiers(), field.toString());
@@ -43,7 +56,34 @@ public final class FaceTest {
         Due.holds("the class is public and final", modifiers == (Modifier.PUBLIC | Modifier.FINAL));
         Due.is("BAD_ADDRESS", HiddenCaches.BAD_ADDRESS, -1);
         Due.is("BAD_LENGTH", HiddenCaches.BAD_LENGTH, -2);
-        Due.end();
+    }
+
+    private static void namesAreApart() {
+        for (Method method : HiddenCaches.class.getDeclaredMethods()) {
+            boolean apart = !Modifier.isPrivate(method.getModifiers()) || !isInTheFace(method.getName());
+            Due.holds(method + " does not bear the name of a public method", apart);
+        }
+        Due.is("count of nested classes", HiddenCaches.class.getDeclaredClasses().length, 0);
+    }
+
+    private static boolean isInTheFace(String name) {
+        for (Method method : HiddenCaches.class.getMethods()) {
+            if (method.getName().equals(name)) {
+                return true;
+            }
+        }
+        return false;
+    }
+
+    private static void fieldsAreNumbers() {
+        for (Field field : HiddenCaches.class.getDeclaredFields()) {
+            Class<?> type = field.getType();
+            Due.holds(field + " has a type of rule 2", FIELD_TYPES.contains(type));
+            if (Modifier.isStatic(field.getModifiers())) {
+                Due.holds(field + " is final", Modifier.isFinal(field.getModifiers()));
+                Due.holds(field + " is an int or a long", type == int.class || type == long.class);
+            }
+        }
     }
 
     private static void add(Set<String> seen, int modifiers, String member) {
